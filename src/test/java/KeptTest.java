@@ -8,6 +8,8 @@ public final class KeptTest {
         backNeedsSomethingKept();
         backBringsAllAgain();
         backBringsHiddenThings();
+        backBringsPipesOfAnOlderLand();
+        backBringsWhatSoilsGive();
         keptStays();
         latestIsKept();
         keepChangesNothing();
@@ -93,6 +95,38 @@ public final class KeptTest {
         z.back();
         check.due("no trench was in hand", z.pipe(0, 1, 0), DrainOffice.NONE);
         check.due("HEIGHT 0 of the first land", z.at(0, 0), 0);
+    }
+
+    private static void backBringsPipesOfAnOlderLand() {
+        DrainOffice x = busy();
+        List<Integer> before = Check.told(x);
+        x.keep();
+        x.land(6, 6);
+        x.trench(35, 5, 600, 20);
+        x.pipe(1, 4, 0);
+        x.pipe(0, 3, 0);
+        x.pipe(1, 4, 0);
+        x.join(2, 0);
+        x.block(1, true);
+        check.due("back()", x.back(), 1);
+        check.due("pipes of the older land", Check.told(x), before);
+    }
+
+    private static void backBringsWhatSoilsGive() {
+        DrainOffice x = new DrainOffice();
+        x.land(1, 4);
+        x.soils(0, 100, 50, 500, 1);
+        x.trench(0, 1, 900, 1);
+        x.pipe(0, 1, 0);
+        x.rain(0, 60);
+        x.keep();
+        x.soils(0, 0, 0, 0, 40);
+        x.back();
+        check.due("reaches 1", x.at(2, 5), 1);
+        check.due("no further", x.at(3, 5), 0);
+        x.hours(1);
+        check.due("gives 50 by 100", x.of(0, 8), 30);
+        check.due("takes 100", x.at(0, 3), 30);
     }
 
     private static void keptStays() {

@@ -9,6 +9,7 @@ import java.util.HashSet;
 import java.util.List;
 import java.util.Set;
 import java.util.TreeSet;
+import java.util.regex.Pattern;
 
 /** What can be looked at of ../shared/LANGUAGE.md, and the public face of the document. */
 public final class LanguageTest {
@@ -113,12 +114,12 @@ public final class LanguageTest {
 
     private static void wordsOutsideTheRules() throws IOException {
         String code = withoutComments(Files.readString(PROGRAM));
-        for (String word : List.of("throw", "throws", "try", "catch", "finally", "synchronized", "assert",
-                "import", "package", "protected", "instanceof", "System", "Arrays", "Exact")) {
-            check.due("the word " + word, code.matches("(?s).*\\b" + word + "\\b.*") ? 1 : 0, 0);
-        }
-        for (String sign : List.of("->", "::", "static {", "Exact(", "...", "@")) {
-            check.due("the sign " + sign, code.contains(sign) ? 1 : 0, 0);
+        List<String> outside = List.of("\\b(throw|throws|try|catch|finally|synchronized|assert)\\b",
+                "\\b(package|protected|volatile|native)\\b", "Exact\\(", "->", "::", "@", "\\.\\.\\.",
+                "static \\{", "System\\.(?!arraycopy\\()",
+                "import (?!java\\.util\\.(ArrayList|List|Arrays|Iterator);)");
+        for (String pattern : outside) {
+            check.due("found: " + pattern, Pattern.compile(pattern).matcher(code).find() ? 1 : 0, 0);
         }
     }
 

@@ -331,6 +331,14 @@ public final class PipesTest {
         check.due("of a lateral", x.of(3, 10), 0);
         x.part(3);
         check.due("20 again", x.of(0, 10), 20);
+        DrainOffice y = land(1, 2);
+        y.trench(0, 1, 900, 5);
+        y.pipe(0, 1, 0);
+        y.pipe(3, 2, 0);
+        y.join(0, 1);
+        check.due("pipe 0 leads into it", y.of(1, 10), 10);
+        y.open(1, 0);
+        check.due("a ditch is no pipe", y.of(0, 10), 0);
     }
 
     private static void stepGoesBothWays() {

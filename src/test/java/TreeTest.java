@@ -10,6 +10,7 @@ public final class TreeTest {
         ringsAreNotClosed();
         pairsComeAsTaken();
         wholeLandHangsTogether();
+        askedTwiceItIsTheSame();
         check.finish();
     }
 
@@ -105,6 +106,33 @@ public final class TreeTest {
         }
         check.due("pair(5)", x.pair(5), DrainOffice.NONE);
         check.due("tree()", x.tree(), 11 + 13 + 15 + 105 + 309);
+    }
+
+    private static void askedTwiceItIsTheSame() {
+        DrainOffice x = land(1, 4);
+        x.height(1, 1050);
+        for (int place = 0; place < 4; place++) {
+            x.mark(place, true);
+        }
+        // 2 and 3 hang together first, then 0 with them, and 1 comes last.
+        int[] pairs = {203, 2, 1};
+        for (int times = 0; times < 3; times++) {
+            check.due("tree()", x.tree(), 10 + 20 + 60);
+            for (int i = 0; i < pairs.length; i++) {
+                check.due("pair(" + i + ")", x.pair(i), pairs[i]);
+            }
+        }
+        x.height(2, 1100);
+        x.height(0, 1101);
+        x.height(3, 1800);
+        // 0 and 2 hang together first; 1 is the lesser of the pair that joins it to them.
+        int[] anew = {2, 102, 203};
+        for (int times = 0; times < 3; times++) {
+            check.due("tree()", x.tree(), 21 + 60 + 710);
+            for (int i = 0; i < anew.length; i++) {
+                check.due("pair(" + i + ")", x.pair(i), anew[i]);
+            }
+        }
     }
 
     private static void wholeLandHangsTogether() {

@@ -218,21 +218,24 @@ public final class WaterTest {
                 check.due("in pipe " + p + ", hour " + hour, x.of(p, 8), inside[hour][p]);
             }
         }
-        // The outfall has number 0 and the lateral 2 here: ranks go ahead of numbers.
+        // Now the outfall has number 0 and the lateral 2: it comes to the same.
         DrainOffice y = row(2, 100);
-        y.trench(0, 1, 900, 1);
-        y.pipe(0, 1, 0);
-        y.pipe(1, 1, 0);
+        y.trench(1, 0, 900, 1);
         y.pipe(3, 1, 0);
-        y.join(0, 2);
+        y.trench(0, 1, 901, 1);
+        y.pipe(1, 1, 0);
+        y.trench(0, 1, 902, 1);
+        y.pipe(0, 1, 0);
+        y.join(2, 1);
+        y.join(1, 0);
+        y.open(0, 0);
         y.rain(0, 50);
-        y.hours(1);
-        y.join(1, 2);
-        y.join(0, 1);
-        y.hours(1);
-        check.due("rank 1 had nothing yet when it passed on", y.of(1, 11), 0);
-        check.due("rank 2 passes on behind it", y.of(1, 8), 6);
-        check.due("what the outfall had", y.of(2, 8), 6);
+        for (int hour = 0; hour < inside.length; hour++) {
+            check.due("gone in hour " + hour, y.hours(1), hour == 2 ? 6 : 0);
+            for (int p = 0; p < 3; p++) {
+                check.due("in pipe " + p + ", hour " + hour, y.of(p, 8), inside[hour][2 - p]);
+            }
+        }
     }
 
     private static void passingOnHasItsBounds() {
