@@ -1,16 +1,23 @@
 import java.util.ArrayList;
 import java.util.List;
+import java.util.function.IntUnaryOperator;
 
 /** What the tests share: answers that are due, and all that an object tells of itself. */
 final class Check {
     private int wrong = 0;
     private int asked = 0;
+    private String sentence = "";
+
+    /** The sentence of the document that the answers from here on are due by. */
+    void sentence(String words) {
+        sentence = "[" + words + "] ";
+    }
 
     void due(String call, int got, int want) {
         asked++;
         if (got != want) {
             wrong++;
-            System.out.println(call + " answered " + got + ", due is " + want);
+            System.out.println(sentence + call + " answered " + got + ", due is " + want);
         }
     }
 
@@ -18,7 +25,16 @@ final class Check {
         asked++;
         if (!got.equals(want)) {
             wrong++;
-            System.out.println(call + ": told " + got + ", due is " + want);
+            System.out.println(sentence + call + ": told " + got + ", due is " + want);
+        }
+    }
+
+    /** The last number that may be and the first that may not, at both ends, and the far ones. */
+    void ends(String call, int least, int most, IntUnaryOperator answer, int accepted, int refused) {
+        due(call + " with " + least, answer.applyAsInt(least), accepted);
+        due(call + " with " + most, answer.applyAsInt(most), accepted);
+        for (int n : new int[] {least - 1, most + 1, Integer.MIN_VALUE, Integer.MAX_VALUE}) {
+            due(call + " with " + n, answer.applyAsInt(n), refused);
         }
     }
 
@@ -38,48 +54,37 @@ final class Check {
         for (int what = 0; what <= 7; what++) {
             told.add(x.all(what));
         }
-        for (int place = 0; place < x.many(0); place++) {
+        int places = x.many(0);
+        for (int place = 0; place < places; place++) {
             for (int what = 0; what <= 5; what++) {
                 told.add(x.at(place, what));
             }
         }
-        for (int p = 0; p < x.many(1); p++) {
-            for (int what = 0; what <= 11; what++) {
-                told.add(x.of(p, what));
-            }
-            for (int k = 0; k < x.of(p, 1); k++) {
-                told.add(x.step(p, k, 0));
-                told.add(x.step(p, k, 1));
-                told.add(x.step(p, k, 2));
-            }
+        int pipes = x.many(1);
+        for (int p = 0; p < pipes; p++) {
+            tellPipe(x, p, told);
         }
         told.add(x.tree());
-        for (int i = 0; x.pair(i) >= 0; i++) {
+        int marked = x.many(4);
+        for (int i = 0; i < marked; i++) {
             told.add(x.pair(i));
         }
-        for (int i = 0; x.dry(i) >= 0; i++) {
+        int unreached = x.many(3);
+        for (int i = 0; i <= unreached; i++) {
             told.add(x.dry(i));
         }
         return told;
     }
 
-    /** What is told, and what comes to light only by going on: sight, trench, soils, ditches. */
-    static List<Integer> probed(DrainOffice x) {
-        List<Integer> told = told(x);
-        told.add(x.where(1, 0));
-        told.add(x.where(1, 1));
-        told.add(x.pipe(1, 1, 0));
-        told.add(x.step(x.many(1) - 1, 0, 0));
-        told.add(x.step(x.many(1) - 1, 1, 1));
-        told.add(x.hours(2));
-        for (int place = 0; place < x.many(0); place++) {
-            told.add(x.at(place, 2));
-            told.add(x.at(place, 3));
+    private static void tellPipe(DrainOffice x, int p, List<Integer> told) {
+        for (int what = 0; what <= 11; what++) {
+            told.add(x.of(p, what));
         }
-        told.add(x.back());
-        told.add(x.many(0));
-        told.add(x.many(1));
-        told.add(x.many(2));
-        return told;
+        int steps = x.of(p, 1);
+        for (int k = 0; k < steps; k++) {
+            for (int what = 0; what <= 2; what++) {
+                told.add(x.step(p, k, what));
+            }
+        }
     }
 }

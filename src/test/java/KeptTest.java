@@ -80,14 +80,8 @@ public final class KeptTest {
     }
 
     private static void backBringsHiddenThings() {
-        DrainOffice y = busy();
-        y.keep();
-        List<Integer> want = Check.probed(y);
-        DrainOffice x = busy();
-        x.keep();
-        changeAll(x);
-        x.back();
-        check.due("soils, ditches, trench, sight behind back()", Check.probed(x), want);
+        Twins.same(check, "kept, changed and brought back", () -> broughtBack(), () -> Twins.called(
+                KeptTest::busy, DrainOffice::keep));
         DrainOffice z = new DrainOffice();
         z.keep();
         z.land(1, 2);
@@ -95,6 +89,14 @@ public final class KeptTest {
         z.back();
         check.due("no trench was in hand", z.pipe(0, 1, 0), DrainOffice.NONE);
         check.due("HEIGHT 0 of the first land", z.at(0, 0), 0);
+    }
+
+    private static DrainOffice broughtBack() {
+        DrainOffice x = busy();
+        x.keep();
+        changeAll(x);
+        x.back();
+        return x;
     }
 
     private static void backBringsPipesOfAnOlderLand() {
