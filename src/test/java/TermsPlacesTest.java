@@ -208,6 +208,7 @@ public final class TermsPlacesTest {
         check.sentence("Terms 3: PEAK: the sum of BEARS of all PIPES that lead INTO it");
         check.due("of none", peak(), 0);
         check.due("of one", peak(1), 6);
+        check.due("of the first PIPE", Offices.drained().of(1, 10), 6);
         DrainOffice x = Offices.land(1, 2);
         Offices.layWide(x, 0, 1, 500, 50, Offices.MAIN, 4);
         for (int p = 1; p < 20; p++) {

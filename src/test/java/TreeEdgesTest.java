@@ -14,6 +14,7 @@ public final class TreeEdgesTest {
         pairTellsTheLesserFirst();
         pairOfNone();
         pairsAddUpToTheTree();
+        pairsAreFoundAnewEachTime();
         check.finish();
     }
 
@@ -159,5 +160,27 @@ public final class TreeEdgesTest {
         }
         check.due("tree()", x.tree(), cost);
         check.due("pair(23)", x.pair(23), NONE);
+    }
+
+    private static void pairsAreFoundAnewEachTime() {
+        check.sentence("Promise 23: Pair i of THE TREE (whatever was asked ahead of it, in any order)");
+        DrainOffice x = Offices.land(1, 4);
+        x.height(1, 1050);
+        for (int place = 0; place < 4; place++) {
+            x.mark(place, true);
+        }
+        int[] pairs = {203, 2, 1};
+        for (int i : new int[] {2, 0, 1, 1, 2, 0}) {
+            check.due("pair(" + i + ")", x.pair(i), pairs[i]);
+            check.due("tree()", x.tree(), 90);
+        }
+        x.height(1, 1000);
+        x.height(2, 1050);
+        // 0 and 1 hang together first, 3 comes to them by 1, and 2 comes last.
+        int[] anew = {1, 103, 102};
+        for (int i : new int[] {2, 0, 1, 1, 2, 0}) {
+            check.due("pair(" + i + ")", x.pair(i), anew[i]);
+            check.due("tree()", x.tree(), 90);
+        }
     }
 }
