@@ -219,18 +219,19 @@ public final class WaterEdgesTest {
     }
 
     private static void allBearsTheMost() {
-        check.sentence("Promises 15 and 16: the most RAIN on the most PLACES for the most HOURS");
-        DrainOffice x = Offices.land(6, 6);
+        check.sentence("What it is: at most 512 calls (the most RAIN on the most PLACES, HOUR after HOUR)");
+        DrainOffice x = new DrainOffice();
+        x.land(6, 6);
         x.rain(-1, 300);
         int fell = 0;
-        for (int call = 0; call < 300; call++) {
-            x.hours(50);
+        for (int call = 3; call <= 508; call++) {
+            check.due("call " + call, x.hours(50), 0);
             fell += 36 * 300 * 50;
         }
-        check.due("fell", x.all(7), fell);
-        check.due("STANDS", x.all(0), fell);
-        check.due("on one PLACE", x.at(35, 2), 300 * 300 * 50);
-        check.due("HOURS", x.many(2), 15000);
+        check.due("call 509: what fell", x.all(7), fell);
+        check.due("call 510: what STANDS", x.all(0), fell);
+        check.due("call 511: HOURS", x.many(2), 506 * 50);
+        check.due("call 512: on one PLACE", x.at(35, 2), 506 * 50 * 300);
     }
 
     private static void manyKnowsSevenThings() {
