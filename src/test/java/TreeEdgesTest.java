@@ -182,5 +182,15 @@ public final class TreeEdgesTest {
             check.due("pair(" + i + ")", x.pair(i), anew[i]);
             check.due("tree()", x.tree(), 90);
         }
+        int[] heights = {1101, 1050, 1100, 1800};
+        for (int place = 0; place < 4; place++) {
+            x.height(place, heights[place]);
+        }
+        // 0 and 2 hang together first; 1 is the lesser PLACE of the pair that joins it to them.
+        int[] third = {2, 102, 203};
+        for (int i : new int[] {2, 0, 1, 1, 2, 0}) {
+            check.due("pair(" + i + ")", x.pair(i), third[i]);
+            check.due("tree()", x.tree(), 21 + 60 + 710);
+        }
     }
 }
