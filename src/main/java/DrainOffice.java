@@ -82,7 +82,7 @@ public final class DrainOffice {
     }
 
     public int soil(int place, int soil) {
-        if (!now.ground.hasPlace(place) || !isWithin(soil, 0, SOIL_COUNT - 1)) {
+        if (!now.ground.hasPlace(place) || !isSoil(soil)) {
             return NUMBER;
         }
         now.ground.soilOf[place] = soil;
@@ -90,7 +90,7 @@ public final class DrainOffice {
     }
 
     public int soils(int soil, int takes, int gives, int keeps, int reaches) {
-        if (!isWithin(soil, 0, SOIL_COUNT - 1)
+        if (!isSoil(soil)
                 || !isWithin(takes, 0, MOST_TAKES) || !isWithin(gives, 0, MOST_GIVES)
                 || !isWithin(keeps, 0, MOST_KEEPS) || !isWithin(reaches, 0, MOST_REACHES)) {
             return NUMBER;
@@ -103,7 +103,7 @@ public final class DrainOffice {
     }
 
     public int ditch(int ditch, int level) {
-        if (!isWithin(ditch, 0, DITCH_COUNT - 1) || !isWithin(level, 0, MOST_HEIGHT)) {
+        if (!isDitch(ditch) || !isWithin(level, 0, MOST_HEIGHT)) {
             return NUMBER;
         }
         now.ground.ditchLevels[ditch] = level;
@@ -169,7 +169,7 @@ public final class DrainOffice {
     }
 
     public int open(int p, int ditch) {
-        if (!now.net.hasPipe(p) || !isWithin(ditch, 0, DITCH_COUNT - 1)) {
+        if (!now.net.hasPipe(p) || !isDitch(ditch)) {
             return NUMBER;
         }
         if (now.net.pipes[p].kind != OUTFALL) {
@@ -350,7 +350,7 @@ public final class DrainOffice {
             left--;
         }
         for (int p = 0; p < now.net.count; p++) {
-            if (fitsAlone(h, p)) {
+            if (fits(h, p, NOTHING)) {
                 if (left == 0) {
                     return p;
                 }
@@ -364,7 +364,7 @@ public final class DrainOffice {
         int left = k;
         for (int p = 0; p < now.net.count; p++) {
             for (int q = p + 1; q < now.net.count; q++) {
-                if (fitsTogether(h, p, q)) {
+                if (fits(h, p, q)) {
                     if (left == 0) {
                         return 100 * (p + 1) + q;
                     }
@@ -375,27 +375,21 @@ public final class DrainOffice {
         return NONE;
     }
 
-    private boolean fitsAlone(int h, int p) {
-        return !now.water.blocked.has(p) && fits(h, p, NOTHING);
-    }
-
-    private boolean fitsTogether(int h, int p, int q) {
-        return !now.water.blocked.has(p) && !now.water.blocked.has(q) && fits(h, p, q);
-    }
-
     /** Tries p and q blocked (NOTHING: none) for h hours; the flow must be planned already. */
     private boolean fits(int h, int p, int q) {
         tried.copyFrom(now.water);
-        if (p != NOTHING) {
-            tried.blocked.put(p, true);
-        }
-        if (q != NOTHING) {
-            tried.blocked.put(q, true);
+        if (!blockTried(p) || !blockTried(q)) {
+            return false;
         }
         for (int hour = 0; hour < h; hour++) {
             flow.passHour(now, tried);
         }
         return tried.isStandingJustOn(now.sight);
+    }
+
+    /** Whether p may be tried: a pipe that is blocked already may not. */
+    private boolean blockTried(int p) {
+        return p == NOTHING || tried.blocked.put(p, true) == 1;
     }
 
     // ---- kept
@@ -416,6 +410,22 @@ public final class DrainOffice {
 
     private static boolean isWithin(int number, int least, int most) {
         return number >= least && number <= most;
+    }
+
+    private static boolean isSoil(int soil) {
+        return soil >= 0 && soil < SOIL_COUNT;
+    }
+
+    private static boolean isDitch(int ditch) {
+        return ditch >= 0 && ditch < DITCH_COUNT;
+    }
+
+    /**
+     * The number at an index that comes out of the state itself: 0 where the row has none such. The
+     * calls let no such index come, but no index is used that wasn't looked at.
+     */
+    private static int numberAt(int[] row, int i) {
+        return i >= 0 && i < row.length ? row[i] : 0;
     }
 
     private static int sum(int[] row) {
@@ -547,10 +557,6 @@ public final class DrainOffice {
         boolean isMain() {
             return kind == MAIN || kind == OUTFALL;
         }
-
-        boolean leadsIntoPipe() {
-            return into >= 0 && into < FIRST_DITCH;
-        }
     }
 
     /** All pipes; those from count on are not laid yet. */
@@ -577,10 +583,8 @@ public final class DrainOffice {
 
         /** No way is longer than there are pipes, as join() lets no ring come. */
         int rankOf(int p) {
-            int rank = 0;
-            int next = p;
-            while (rank < MOST_PIPES && pipes[next].leadsIntoPipe()) {
-                next = pipes[next].into;
+            int rank = -1;
+            for (int next = p; hasPipe(next) && rank < MOST_PIPES; next = pipes[next].into) {
                 rank++;
             }
             return rank;
@@ -589,16 +593,10 @@ public final class DrainOffice {
         /** Whether q is p, or leads, through others or not, into p. */
         boolean leadsTo(int q, int p) {
             int next = q;
-            for (int far = 0; far < MOST_PIPES; far++) {
-                if (next == p) {
-                    return true;
-                }
-                if (!pipes[next].leadsIntoPipe()) {
-                    return false;
-                }
+            for (int far = 0; far < MOST_PIPES && hasPipe(next) && next != p; far++) {
                 next = pipes[next].into;
             }
-            return false;
+            return next == p;
         }
 
         int peakOf(int p) {
@@ -669,7 +667,7 @@ public final class DrainOffice {
         }
 
         int coverAt(Line line, int k) {
-            return heights[line.placeAt(k)] - line.levelAt(k);
+            return numberAt(heights, line.placeAt(k)) - line.levelAt(k);
         }
 
         /** The first step without cover, or -1. */
@@ -683,10 +681,11 @@ public final class DrainOffice {
         }
 
         boolean isReachedBy(int place, Line line) {
+            int reach = numberAt(reaches, soilOf[place]);
             for (int k = 0; k < line.steps; k++) {
                 int rowsOff = rowsApart(place, line.placeAt(k));
                 int columnsOff = columnsApart(place, line.placeAt(k));
-                if (rowsOff * rowsOff + columnsOff * columnsOff <= reaches[soilOf[place]]) {
+                if (rowsOff * rowsOff + columnsOff * columnsOff <= reach) {
                     return true;
                 }
             }
@@ -795,46 +794,32 @@ public final class DrainOffice {
 
     /** What an hour does. The plan (who drains where, who passes on when) serves many hours. */
     private static final class Flow {
-        final int[] order = new int[MOST_PIPES];
         final int[] ranks = new int[MOST_PIPES];
+        int mostRank;
         final int[] drainCount = new int[MOST_PLACES];
         final int[] drains = new int[MOST_PLACES * MOST_PIPES];
 
         void plan(Net net) {
-            planDrains(net);
-            planOrder(net);
-        }
-
-        private void planDrains(Net net) {
-            fill(drainCount, 0);
-            for (int p = 0; p < net.count; p++) {
-                if (net.pipes[p].isLateral()) {
-                    addDrain(net.pipes[p].line, p);
-                }
+            for (int place = 0; place < MOST_PLACES; place++) {
+                drainCount[place] = planDrains(net, place);
             }
-        }
-
-        private void addDrain(Line line, int p) {
-            for (int k = 0; k < line.steps; k++) {
-                int place = line.placeAt(k);
-                drains[place * MOST_PIPES + drainCount[place]] = p;
-                drainCount[place]++;
-            }
-        }
-
-        private void planOrder(Net net) {
+            mostRank = 0;
             for (int p = 0; p < net.count; p++) {
                 ranks[p] = net.rankOf(p);
+                mostRank = Math.max(mostRank, ranks[p]);
             }
-            int next = 0;
-            for (int rank = 0; rank < net.count; rank++) {
-                for (int p = 0; p < net.count; p++) {
-                    if (ranks[p] == rank) {
-                        order[next] = p;
-                        next++;
-                    }
+        }
+
+        /** How many laterals have the place as a step. */
+        private int planDrains(Net net, int place) {
+            int count = 0;
+            for (int p = 0; p < net.count; p++) {
+                if (net.pipes[p].isLateral() && net.pipes[p].line.stepOn(place) >= 0) {
+                    drains[place * MOST_PIPES + count] = p;
+                    count++;
                 }
             }
+            return count;
         }
 
         void passHour(Sheet sheet, Water water) {
@@ -843,42 +828,47 @@ public final class DrainOffice {
                 wetPlace(sheet, water, place);
                 drainPlace(sheet, water, place);
             }
-            for (int i = 0; i < sheet.net.count; i++) {
-                passOn(sheet, water, order[i]);
+            for (int rank = 0; rank <= mostRank; rank++) {
+                for (int p = 0; p < sheet.net.count; p++) {
+                    if (ranks[p] == rank) {
+                        passOn(sheet, water, p);
+                    }
+                }
             }
             for (int p = 0; p < sheet.net.count; p++) {
-                if (water.life[p] > 0) {
-                    water.life[p]--;
-                }
+                water.life[p] = Math.max(0, water.life[p] - 1);
             }
             water.hours++;
         }
 
         private void wetPlace(Sheet sheet, Water water, int place) {
-            Ground ground = sheet.ground;
-            int soil = ground.soilOf[place];
+            int soil = sheet.ground.soilOf[place];
             water.fell += sheet.rain[place];
             water.stands[place] += sheet.rain[place];
             // More wet than it keeps: a soil can come to that by soil() or soils() alone.
-            int room = Math.max(0, ground.keeps[soil] - water.wet[place]);
-            int taken = Math.min(room, Math.min(ground.takes[soil], water.stands[place]));
+            int room = Math.max(0, numberAt(sheet.ground.keeps, soil) - water.wet[place]);
+            int most = Math.min(room, numberAt(sheet.ground.takes, soil));
+            int taken = Math.min(most, water.stands[place]);
             water.stands[place] -= taken;
             water.wet[place] += taken;
         }
 
         private void drainPlace(Sheet sheet, Water water, int place) {
-            int gives = sheet.ground.gives[sheet.ground.soilOf[place]];
+            int gives = numberAt(sheet.ground.gives, sheet.ground.soilOf[place]);
             for (int i = 0; i < drainCount[place]; i++) {
-                int p = drains[place * MOST_PIPES + i];
-                Pipe pipe = sheet.net.pipes[p];
-                boolean isOver = pipe.kind == MOLE && water.life[p] == 0;
-                if (!isOver && !water.blocked.has(p)) {
-                    int room = pipe.holds - water.inside[p];
+                int p = numberAt(drains, place * MOST_PIPES + i);
+                if (isDraining(sheet.net, water, p)) {
+                    int room = sheet.net.pipes[p].holds - water.inside[p];
                     int given = Math.min(room, water.wet[place] * gives / 100);
                     water.wet[place] -= given;
                     water.inside[p] += given;
                 }
             }
+        }
+
+        private boolean isDraining(Net net, Water water, int p) {
+            return net.hasPipe(p) && !water.blocked.has(p)
+                    && (net.pipes[p].kind != MOLE || water.life[p] > 0);
         }
 
         private void passOn(Sheet sheet, Water water, int p) {
@@ -887,23 +877,25 @@ public final class DrainOffice {
             int passed = Math.min(most, Math.min(pipe.bears, water.inside[p]));
             water.passed[p] = passed;
             water.inside[p] -= passed;
-            if (pipe.leadsIntoPipe()) {
+            int ditch = pipe.into - FIRST_DITCH;
+            if (sheet.net.hasPipe(pipe.into)) {
                 water.inside[pipe.into] += passed;
-            } else if (pipe.into >= FIRST_DITCH) {
-                water.gone[pipe.into - FIRST_DITCH] += passed;
+            } else if (isDitch(ditch)) {
+                water.gone[ditch] += passed;
             }
         }
 
         /** How much that into which the pipe leads would take. */
         private int mostInto(Sheet sheet, Water water, Pipe pipe) {
-            if (pipe.leadsIntoPipe()) {
+            int ditch = pipe.into - FIRST_DITCH;
+            if (sheet.net.hasPipe(pipe.into)) {
                 return sheet.net.pipes[pipe.into].holds - water.inside[pipe.into];
             }
-            if (pipe.into < FIRST_DITCH) {
+            if (!isDitch(ditch)) {
                 return 0;
             }
             int lastLevel = pipe.line.levelAt(pipe.line.steps - 1);
-            boolean isShut = sheet.ground.ditchLevels[pipe.into - FIRST_DITCH] > lastLevel;
+            boolean isShut = sheet.ground.ditchLevels[ditch] > lastLevel;
             return isShut ? 0 : pipe.bears;
         }
     }
@@ -914,9 +906,10 @@ public final class DrainOffice {
         final int[] taken = new int[MOST_PLACES];
         int count;
         int cost;
-        private int lesser;
-        private int greater;
         private int leastCost;
+        private int leastPair;
+        private int pieceOfLesser;
+        private int pieceOfGreater;
 
         void grow(Ground ground, Group marked) {
             for (int place = 0; place < MOST_PLACES; place++) {
@@ -924,14 +917,19 @@ public final class DrainOffice {
             }
             count = 0;
             cost = 0;
-            for (int more = marked.size() - 1; more > 0; more--) {
-                findLeast(ground, marked);
-                take();
+            while (count < MOST_PLACES && findLeast(ground, marked)) {
+                taken[count] = leastPair;
+                count++;
+                cost += leastCost;
+                joinPieces();
             }
         }
 
-        /** The least pair that joins two pieces: pairs that were passed over never do so later. */
-        private void findLeast(Ground ground, Group marked) {
+        /**
+         * Whether some pair joins two pieces, and the least that does: pairs that were passed over
+         * never do so later.
+         */
+        private boolean findLeast(Ground ground, Group marked) {
             leastCost = Integer.MAX_VALUE;
             for (int a = 0; a < ground.places; a++) {
                 for (int b = a + 1; b < ground.places; b++) {
@@ -940,25 +938,22 @@ public final class DrainOffice {
                     }
                 }
             }
+            return leastCost < Integer.MAX_VALUE;
         }
 
         private void offer(int a, int b, int itsCost) {
             if (itsCost < leastCost) {
                 leastCost = itsCost;
-                lesser = a;
-                greater = b;
+                leastPair = 100 * a + b;
+                pieceOfLesser = piece[a];
+                pieceOfGreater = piece[b];
             }
         }
 
-        private void take() {
-            taken[count] = 100 * lesser + greater;
-            count++;
-            cost += leastCost;
-            int from = piece[greater];
-            int to = piece[lesser];
+        private void joinPieces() {
             for (int place = 0; place < MOST_PLACES; place++) {
-                if (piece[place] == from) {
-                    piece[place] = to;
+                if (piece[place] == pieceOfGreater) {
+                    piece[place] = pieceOfLesser;
                 }
             }
         }

@@ -113,10 +113,8 @@ public final class GroundEdgesTest {
         Offices.lay(x, 5, 0, 800, 1, Offices.OUTFALL);
         x.join(0, 1);
         x.open(1, 1);
-        while (x.many(1) < 20) {
-            x.pipe(2, 4, 100);
-        }
         for (int p = 2; p < 20; p++) {
+            x.pipe(2, 4, 100);
             x.block(p, true);
         }
         x.rain(-1, 300);

@@ -187,9 +187,9 @@ public final class KeptEdgesTest {
         DrainOffice x = Offices.drained();
         x.keep();
         x.rain(-1, 200);
-        while (x.many(1) < 20) {
+        for (int p = 2; p < 20; p++) {
             x.pipe(2, 4, 9);
-            x.block(x.many(1) - 1, x.many(1) % 2 == 0);
+            x.block(p, p % 2 != 0);
         }
         x.hours(5);
         x.back();

@@ -9,6 +9,7 @@ import java.util.HashSet;
 import java.util.List;
 import java.util.Set;
 import java.util.TreeSet;
+import java.util.regex.MatchResult;
 import java.util.regex.Pattern;
 
 /** What can be looked at of ../shared/LANGUAGE.md, and the public face of the document. */
@@ -29,6 +30,9 @@ public final class LanguageTest {
         nothingElseIsSeen();
         classesStayInBounds();
         wordsOutsideTheRules();
+        libraryIsTheRules();
+        rowsAreMadeWithTheObject();
+        indexesAndDivisorsAreLookedAt();
         methodsStayShort();
         check.finish();
     }
@@ -121,6 +125,43 @@ public final class LanguageTest {
         for (String pattern : outside) {
             check.due("found: " + pattern, Pattern.compile(pattern).matcher(code).find() ? 1 : 0, 0);
         }
+    }
+
+    /** Rule 4, as far as the class needs it. */
+    private static void libraryIsTheRules() throws IOException {
+        Set<String> listed = Set.of("Math.abs", "Math.max", "Math.min", "Long.bitCount", "Integer.MAX_VALUE");
+        for (String use : found("\\b(?:[a-z]\\w*\\.)*[A-Z]\\w*\\.\\w+")) {
+            check.due("library: " + use, listed.contains(use) ? 1 : 0, 1);
+        }
+    }
+
+    /** Rule 12: what a run makes is counted, so no call makes anything: constructors and fields do. */
+    private static void rowsAreMadeWithTheObject() throws IOException {
+        for (String line : found("(?m)^.*\\bnew\\b.*$")) {
+            boolean isField = line.matches("\\s*(private )?final [\\w\\[\\]]+ \\w+ = new .*;");
+            check.due("made: " + line, isField || line.strip().equals("pipes[p] = new Pipe();") ? 1 : 0, 1);
+        }
+    }
+
+    /**
+     * Rule 7: an index is a name that a loop or a test bounds, or one of the forms below, of which
+     * each stands behind its test; a number that the state holds goes through numberAt().
+     */
+    private static void indexesAndDivisorsAreLookedAt() throws IOException {
+        Set<String> forms = Set.of("", "pipe.into", "what - 3", "place * MOST_PIPES + count",
+                "MOST_PLACES * MOST_PIPES");
+        for (String index : found("(?<=\\[)[^\\]]*(?=\\])")) {
+            check.due("index: " + index, forms.contains(index) || index.matches("\\w+") ? 1 : 0, 1);
+        }
+        for (String divisor : found("[/%]=? *.*")) {
+            boolean isTested = divisor.equals("/ columns : 0;");
+            check.due("divisor: " + divisor, isTested || divisor.startsWith("/ 100)") ? 1 : 0, 1);
+        }
+    }
+
+    private static List<String> found(String pattern) throws IOException {
+        String code = withoutComments(Files.readString(PROGRAM));
+        return Pattern.compile(pattern).matcher(code).results().map(MatchResult::group).toList();
     }
 
     private static String withoutComments(String code) {

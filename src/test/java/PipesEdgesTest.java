@@ -199,7 +199,7 @@ public final class PipesEdgesTest {
         check.due("NUMBER and COVER", x.pipe(0, 0, 0), NUMBER);
         check.due("COVER", x.pipe(0, 1, 0), -100);
         x.trench(0, 1, 940, 1);
-        while (x.many(1) < 20) {
+        for (int p = 0; p < 20; p++) {
             x.pipe(0, 1, 0);
         }
         check.due("NUMBER and FULL", x.pipe(2, 1, 101), NUMBER);

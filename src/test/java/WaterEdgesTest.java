@@ -260,7 +260,7 @@ public final class WaterEdgesTest {
             Offices.lay(x, 6 * row, 6 * row + 5, 900, 1, Offices.LATERAL);
             check.due("PLACES that none REACHES", x.many(3), 30 - 6 * row);
         }
-        while (x.many(1) < 20) {
+        for (int p = 6; p < 20; p++) {
             x.pipe(1, 1, 0);
         }
         for (int p = 0; p < 20; p++) {
